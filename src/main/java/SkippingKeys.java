@@ -1051,10 +1051,6 @@ public final class SkippingKeys {
       }
     }
 
-    int firstWanted() {
-      return wanted[0];
-    }
-
     boolean names(int column) {
       return (columnBits & 1 << column) != 0;
     }
@@ -1481,7 +1477,6 @@ public final class SkippingKeys {
 
     void wipeAll() {
       size = 0;
-      place = 0;
     }
 
     void rewind() {
@@ -1758,9 +1753,11 @@ public final class SkippingKeys {
       it.kind = AMONG;
       tape.take();
       int bits = 0;
-      for (int read = 0; read < Tape.MOST && tape.digitAhead(1, 9) != NONE; read++) {
-        bits |= 1 << tape.digitAhead(1, 9);
+      int v = tape.digitAhead(1, 9);
+      for (int read = 0; read < Tape.MOST && v != NONE; read++) {
+        bits |= 1 << v;
         tape.take();
+        v = tape.digitAhead(1, 9);
       }
       if (bits == 0 || tape.ahead() != ']') {
         return false;
@@ -1790,12 +1787,14 @@ public final class SkippingKeys {
 
     private static boolean readSeveral(Tape tape, Condition it) {
       it.kind = SEVERAL;
-      for (int read = 1; read < COLUMNS_IN_ALL && tape.columnAhead() != NONE; read++) {
-        if (it.names(tape.columnAhead())) {
+      int next = tape.columnAhead();
+      for (int read = 1; read < COLUMNS_IN_ALL && next != NONE; read++) {
+        if (it.names(next)) {
           return false;
         }
-        it.addColumn(tape.columnAhead(), MISSING);
+        it.addColumn(next, MISSING);
         tape.take();
+        next = tape.columnAhead();
       }
       it.sign = tape.signAhead();
       if (it.columnCount() < 2 || it.sign == NONE) {

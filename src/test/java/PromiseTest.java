@@ -115,6 +115,7 @@ public final class PromiseTest {
     days51();
     seed52();
     image53();
+    back54();
     status55();
     refusalsChangeNothing();
   }
@@ -267,6 +268,10 @@ public final class PromiseTest {
     is(x.copy(1, 0, 0, 0, 4), BAD);
     is(x.copy(0, 1, HUGE, 0, 1), BAD);
     is(x.copy(0, 1, 1, 1, HUGE), BAD);
+    is(x.copy(0, 1, 3, 0, 3), BAD);
+    is(x.copy(0, 1, 5, 0, 1), BAD);
+    is(x.copy(0, 1, 0, 1, 3), BAD);
+    is(x.copy(0, 1, 0, 3, 1), BAD);
     is(x.copy(0, 1, 0, LEAST, LEAST), BAD);
     tell(x, 2, 1, 1, 2, 3);
     x.gone(0);
@@ -569,6 +574,10 @@ public final class PromiseTest {
     is(x.keys(6, 0), 1);
     is(x.truth(6, 0, 213), 0);
     is(read(x, "a=9"), 7);
+    is(read(x, "ab=99"), 8);
+    is(x.values(8, 0), 512);
+    is(x.values(8, 1), 512);
+    is(x.drop(), 8);
     is(x.values(7, 0), 512);
     is(read(x, "b%20"), 8);
     is(x.values(8, 1), 340);
@@ -621,7 +630,8 @@ public final class PromiseTest {
       "b[1,2]", "b[1a]", "b?1", "b??", "c%", "c%1", "c%0", "c%2", "c%22", "c%9 9", "c%31 1",
       "c%a", "aa", "ab", "ab?", "ab[1]", "ab%21", "aba", "abb", "abc", "abca", "abc<", "ab<a",
       "ab<1", "ab<10", "ab<123", "abc<12", "abc<120", "abc<1234", "ab c", "a!1", "(a?&b?|c?",
-      "(a?))", "((a?)|b?", "a?\u0000", "\u00e9", "a\u00ff", "a=1;b=2"
+      "(a?))", "((a?)|b?", "a?\u0000", "\u00e9", "a\u00ff", "a=1;b=2", "a<:", "a</", "a[:",
+      "a[1:", "a[/", "c%:", "c%/", "c%2:", "c%2/", "c%9:", "ab<:", "ab<1:", "ab<1/", "ab<10"
     };
     int[] faults = {
       0, 2, 1, 2, 0, 0, 0, 0, 0, 0, 0, 1, 1, 3, 4, 2,
@@ -630,7 +640,8 @@ public final class PromiseTest {
       3, 3, 2, 2, 2, 2, 2, 3, 3, 4, 5,
       2, 1, 2, 2, 2, 2, 2, 2, 3, 3, 4, 3,
       4, 4, 5, 6, 6, 7, 4, 1, 9,
-      4, 8, 2, 0, 1, 3
+      4, 8, 2, 0, 1, 3, 2, 2, 2,
+      3, 2, 2, 2, 3, 3, 3, 3, 4, 4, 4
     };
     is(texts.length, faults.length);
     for (int i = 0; i < texts.length; i++) {
@@ -1214,6 +1225,8 @@ public final class PromiseTest {
     is(x.best(2, -1, 0), BAD);
     is(x.best(3, 0, 0), BAD);
     is(x.best(-1, 0, 0), BAD);
+    x.price(4);
+    is(x.best(2, 0, 0), 3);
     read(x, "a<1");
     is(x.best(3, 0, 0), 1);
     is(x.best(3, 0, 1), 0);
@@ -1281,12 +1294,25 @@ public final class PromiseTest {
     is(x.seek(0, 0, LEAST, 1), NONE);
     is(x.seek(0, 2, 0, 0), 500);
     is(x.seek(0, 4, 7, 0), 15);
+    is(x.seek(0, 2, 600, 1), 599);
+    x.gone(2); // TRUE for the least key of most indexes, and for the greatest of none
+    is(x.seek(1, 0, 0, 0), 0);
+    is(x.seek(1, 0, LEAST, 0), 0);
+    is(x.seek(1, 0, 1, 0), 10);
+    is(x.seek(1, 0, 9, 1), 0);
+    is(x.seek(1, 0, 0, 1), 0);
+    is(x.seek(1, 0, -1, 1), NONE);
+    x.test(2, 1, 9);
+    is(x.seek(2, 0, 999, 0), 999);
+    is(x.seek(2, 0, 999, 1), 999);
+    is(x.seek(2, 0, 998, 1), 989);
+    is(x.seek(2, 4, 898, 1), NONE);
     is(times(x, BAD), 0);
     is(x.seek(0, 0, 0, 2), BAD);
     is(x.seek(0, 0, 0, -1), BAD);
     is(x.seek(0, 6, 0, 0), BAD);
     is(x.seek(0, -1, 0, 0), BAD);
-    is(x.seek(1, 0, 0, 0), BAD);
+    is(x.seek(3, 0, 0, 0), BAD);
     is(x.seek(-1, 0, 0, 0), BAD);
   }
 
@@ -1304,12 +1330,23 @@ public final class PromiseTest {
     is(x.leaders(2, 2, 2, 1), 2);
     is(x.leaders(2, 1, 2, 1), 3);
     is(x.leaders(0, 0, 1, 1), 4);
+    x.line(0, 0, 0);
+    is(x.leaders(2, 0, 1, 1), 2);
+    is(read(x, "a?&b?&c?"), 7);
+    is(x.leaders(7, 0, 1, 0), 1);
+    is(x.leaders(7, 5, 2, 1), 1);
+    is(read(x, "abc=999|a=1&bc=99"), 12);
+    is(x.leaders(12, 0, 1, 0), 2);
+    is(x.leaders(12, 0, 2, 0), 2);
+    is(x.leaders(12, 2, 1, 0), 1);
+    is(x.leaders(12, 2, 2, 0), 2);
+    is(x.leaders(12, 3, 2, 0), 1);
     is(x.leaders(2, 0, 0, 0), BAD);
     is(x.leaders(2, 0, 3, 0), BAD);
     is(x.leaders(2, 0, 1, 2), BAD);
     is(x.leaders(2, 0, 1, -1), BAD);
     is(x.leaders(2, 6, 1, 0), BAD);
-    is(x.leaders(3, 0, 1, 0), BAD);
+    is(x.leaders(13, 0, 1, 0), BAD);
     is(x.leaders(-1, 0, 1, 0), BAD);
   }
 
@@ -1404,9 +1441,18 @@ public final class PromiseTest {
     is(x.alike(0, 4), 400);
     is(x.alike(4, 0), 400);
     is(x.alike(0, 0), NONE);
+    is(read(x, "a?&b?&c?"), 9);
+    is(read(x, "+a<1"), 11);
+    is(x.alike(9, 11), 0); // just there
+    is(read(x, "abc=999"), 12);
+    is(read(x, "+abc=999"), 14);
+    is(read(x, "+abc>998"), 16);
+    is(x.alike(14, 16), NONE);
+    is(x.alike(16, 11), 999);
+    is(x.implies(14, 11), 999);
     is(times(x, BAD), 0);
-    is(x.alike(0, 5), BAD);
-    is(x.alike(5, 0), BAD);
+    is(x.alike(0, 17), BAD);
+    is(x.alike(17, 0), BAD);
     is(x.alike(-1, 0), BAD);
     is(x.alike(0, -1), BAD);
   }
@@ -1469,6 +1515,9 @@ public final class PromiseTest {
       tell(x, 0, 3, elements);
       is(x.signs(0, 5, 0, 1), STUCK);
     }
+    tell(x, 2, 3, 0, 1, 1, 0, 2, 2, 0, 0);
+    is(x.signs(0, 5, 2, 2), 9);
+    is(x.signs(0, 5, 2, 3), STUCK);
     x.row(2, 3, 40);
     is(x.signs(0, 3, 2, 20), 13);
     x.row(2, 3, 39);
@@ -1650,6 +1699,7 @@ public final class PromiseTest {
     x.strike(0);
     is(x.back(), 1);
     is(x.status(0), 2);
+    is(x.condOf(2, 6), 4);
     x.strike(0);
     is(x.image(), 1);
     x.strike(0);
@@ -1670,6 +1720,49 @@ public final class PromiseTest {
     is(x.status(1), 1);
   }
 
+  /** What conditions are taken for, and over, after they came back. */
+  private static void back54() {
+    SkippingKeys x = withCond("a=1&c%31&ba<45"); // 0 test, 1 rest, 2 and, 3 several, 4 and
+    x.image();
+    for (int i = 0; i < 5; i++) {
+      x.drop();
+    }
+    x.turn(9, x.gone(0));
+    x.among(2, 6);
+    x.back();
+    int[][] due = {
+      // KIND x y COLUMNS SIGN deep PARTS
+      {0, NONE, NONE, 1, 1, 0, 1},
+      {4, NONE, NONE, 4, NONE, 0, 2},
+      {6, 0, 1, 5, NONE, 1, 3},
+      {5, NONE, NONE, 3, 0, 0, 8},
+      {6, 2, 3, 7, NONE, 2, 11}
+    };
+    for (int c = 0; c < due.length; c++) {
+      for (int what = 0; what <= 6; what++) {
+        is(x.condOf(c, what), due[c][what]);
+      }
+    }
+    x.show(0, 1);
+    is(x.says(0, 1), 2);
+    is(x.says(0, 2), 146);
+    x.show(0, 3);
+    is(x.says(0, 1), 1);
+    is(x.says(0, 6), 2);
+    x.show(0, 4);
+    is(x.says(0, 5), 3);
+    is(x.says(0, 3), 203);
+    is(x.pair(6, 4, 0), 5);
+    is(x.condOf(5, 6), 11);
+    is(x.condOf(5, 5), 3);
+    is(x.truth(4, 0, 131), 1);
+    is(x.truth(4, 0, 141), 1);
+    is(x.truth(4, 0, 151), 0);
+    is(x.truth(4, 0, 102), 0);
+    is(x.gone(1), 6);
+    is(x.condOf(6, 5), 0);
+  }
+
   private static void status55() {
     SkippingKeys x = new SkippingKeys();
     readTable(x, "1.3;1.3;.13;...;13.");
@@ -1679,6 +1772,7 @@ public final class PromiseTest {
     feedAll(x, "xyz");
     x.row(0, 0, 0);
     x.show(4, 1);
+    is(x.leaders(2, 0, 2, 0), 19);
     int[] due = {5, 3, 9, 4, 7, 3, -5, 2};
     for (int what = 0; what < due.length; what++) {
       is(x.status(what), due[what]);
