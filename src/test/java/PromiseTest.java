@@ -631,7 +631,8 @@ public final class PromiseTest {
       "c%a", "aa", "ab", "ab?", "ab[1]", "ab%21", "aba", "abb", "abc", "abca", "abc<", "ab<a",
       "ab<1", "ab<10", "ab<123", "abc<12", "abc<120", "abc<1234", "ab c", "a!1", "(a?&b?|c?",
       "(a?))", "((a?)|b?", "a?\u0000", "\u00e9", "a\u00ff", "a=1;b=2", "a<:", "a</", "a[:",
-      "a[1:", "a[/", "c%:", "c%/", "c%2:", "c%2/", "c%9:", "ab<:", "ab<1:", "ab<1/", "ab<10"
+      "a[1:", "a[/", "c%:", "c%/", "c%2:", "c%2/", "c%9:", "ab<:", "ab<1:", "ab<1/", "ab<10",
+      "b[10]", "b[9:]"
     };
     int[] faults = {
       0, 2, 1, 2, 0, 0, 0, 0, 0, 0, 0, 1, 1, 3, 4, 2,
@@ -641,7 +642,8 @@ public final class PromiseTest {
       2, 1, 2, 2, 2, 2, 2, 2, 3, 3, 4, 3,
       4, 4, 5, 6, 6, 7, 4, 1, 9,
       4, 8, 2, 0, 1, 3, 2, 2, 2,
-      3, 2, 2, 2, 3, 3, 3, 3, 4, 4, 4
+      3, 2, 2, 2, 3, 3, 3, 3, 4, 4, 4,
+      3, 3
     };
     is(texts.length, faults.length);
     for (int i = 0; i < texts.length; i++) {
@@ -1083,9 +1085,12 @@ public final class PromiseTest {
     is(read(x, "a<1"), 3);
     is(x.values(3, 0), 0);
     is(x.values(3, 1), 0);
+    is(read(x, "a?&b?&c?"), 8);
+    is(x.values(8, 0), 1);
+    is(x.values(8, 2), 1);
     is(x.values(0, 3), BAD);
     is(x.values(0, -1), BAD);
-    is(x.values(4, 0), BAD);
+    is(x.values(9, 0), BAD);
     is(x.values(-1, 0), BAD);
   }
 
@@ -1248,6 +1253,12 @@ public final class PromiseTest {
     x.strike(9);
     is(x.best(0, 0, 0), 1);
     is(x.best(0, 0, 1), 9);
+    x.line(6, 0, 5); // 605: gap 60, joined as the 61st, by 39 or less
+    is(x.best(0, 0, 0), 40);
+    is(x.best(0, 0, 1), 9);
+    x.line(5, 9, 5); // 595: gap 59, joined by any n
+    is(x.best(0, 0, 0), 40);
+    is(x.best(0, 0, 1), 10);
   }
 
   private static void bestIndex38() {
