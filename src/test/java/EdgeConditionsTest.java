@@ -344,8 +344,8 @@ public final class EdgeConditionsTest extends Edges {
         "gone 0", 0, "holds 0", NONE);
     edge("25 over a dropped one: a new one", "test 0 1 4", "drop", "test 0 1 5", 0,
         "truth 0 0 500", TRUE);
-    edge("25 one over none where one over another was", "gone 0", "turn 8 0", "drop", 1, "gone 1", 1,
-        "condOf 1 5", 0, "condOf 1 3", 2, "condOf 1 1", NONE);
+    edge("25 one over none where one over another was", "gone 0", "turn 8 0", "drop", 1, "gone 1",
+        1, "condOf 1 5", 0, "condOf 1 3", 2, "condOf 1 1", NONE);
     edge("25 one over another where one over none was", ALL_CONDITIONS, "gone 2", FULL, "drop", 23,
         "turn 8 0", 23, "condOf 23 3", 1, "condOf 23 5", 1);
     edge("25 room again", ALL_CONDITIONS, "drop", 23, "gone 2", 23, "gone 2", FULL);
@@ -395,7 +395,8 @@ public final class EdgeConditionsTest extends Edges {
   private void condOfParts26() {
     edge("26 PARTS of the first", "gone 0", "condOf 0 6", 1);
     edge("26 PARTS of the last", ALL_CONDITIONS, "condOf 23 6", 1 << 23);
-    edge("26 PARTS of an AND of ANDs", "tape a?&b?&(c?&a?)", "cond", 6, "condOf 6 6", 1 + 2 + 8 + 16);
+    edge("26 PARTS of an AND of ANDs", "tape a?&b?&(c?&a?)", "cond", 6, "condOf 6 6",
+        1 + 2 + 8 + 16);
     edge("26 PARTS of an AND of the same", "gone 0", "pair 6 0 0", "condOf 1 6", 1);
     edge("26 PARTS of an AND over an OR", "tape a?&(b?|c?)", "cond", 4, "condOf 4 6", 1 + 8);
     edge("26 PARTS of an OR over ANDs", "tape a?&b?|c?&a?", "cond", 6, "condOf 6 6", 64);

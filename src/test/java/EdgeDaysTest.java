@@ -84,8 +84,8 @@ public final class EdgeDaysTest extends Edges {
         "back", 1, "status 0", 60, "keyOf 59 0", 123, "status 1", 24, "keys 23 1", 100);
     edge("53 a full one to one that was new", "image", SIXTY_LINES, ALL_CONDITIONS, "back", 1,
         "status 0", 0, "keyOf 0 0", BAD, "status 1", 0, "drop", STUCK);
-    edge("53 again: the later one is kept", "image", "line 1 1 1", "image", 1, "strike 0", "back", 1,
-        "status 0", 1);
+    edge("53 again: the later one is kept", "image", "line 1 1 1", "image", 1, "strike 0", "back",
+        1, "status 0", 1);
     edge("53 not THE TAPE", "tape a", "image", "tape ?", "back", 1, "status 5", 2, "cond", 0);
     edge("53 not THE TAPE, wiped", "tape a?", "image", "wipe", "back", 1, "status 5", 0);
     edge("53 not SHELVES", "row 0 3 1", "image", "set 0 0 7", "row 1 2 2", "back", 1, "element 0 0",
@@ -110,7 +110,8 @@ public final class EdgeDaysTest extends Edges {
         "line 3 3 3", FULL);
     edge("54 room for CONDITIONS again", "23 gone 0", "image", "gone 1", "back", "gone 2", 23,
         "condOf 23 3", 4, "gone 2", FULL);
-    edge("54 the draws go on as they did", "image", "days 5", "back", "days 1", 1, "keyOf 0 0", 863);
+    edge("54 the draws go on as they did", "image", "days 5", "back", "days 1", 1, "keyOf 0 0",
+        863);
     edge("54 what was dropped is there again", "tape a=1&b?", "cond", 2, "image", "3 drop", "back",
         1, "truth 2 0 100", 1, "truth 2 0 110", 0, "condOf 2 6", 3, "condOf 2 3", 3);
     Object[] others = {"tape a=1&b%31&ba<45", "cond", 4, "image", "5 drop", "gone 0", "turn 9 0",

@@ -4,8 +4,8 @@ public final class EdgeFoundTest extends Edges {
 
   /** FOUND by CONDITION 0 in INDEX 0: 4 1 5 0 2; not 3 (FALSE), not 6 (DOUBT). */
   private static final String[] SOME = {
-    "test 0 0 9", "line 3 1 2", "line 1 2 1", "line 3 1 2", "line 9 1 1", "line 1 1 2", "line 2 1 1",
-    "line 0 1 2"
+    "test 0 0 9", "line 3 1 2", "line 1 2 1", "line 3 1 2", "line 9 1 1", "line 1 1 2",
+    "line 2 1 1", "line 0 1 2"
   };
   private static final String[] SIXTY_FOUND = {"test 0 1 1", SIXTY_LINES};
 

@@ -9,8 +9,10 @@ public final class EdgeKeysTest extends Edges {
   private static final String[] AT_LAST = {"tape abc=999", "cond"}; // 0: KEY 999
   private static final String[] AT_BOTH_ENDS = {"tape abc=999|a?&b?&c?", "cond"}; // 6
   private static final String[] THREE = {"tape a[1 3 9]&b?", "cond"}; // 2: 100, 300, 900 and 9 more
-  private static final String[] FORTY = {"among 1 170"}; // 0: 10 to 19, 30 to 39, 50 .., 70 .., 110 ..
-  private static final String[] FORTY_ONE = {"among 1 170", "tape abc=999", "cond", "pair 7 0 1"}; // 2
+  private static final String[] FORTY = {"among 1 170"}; // 0: 10 to 19, 30 .., 50 .., 70 .., 110 ..
+  private static final String[] FORTY_ONE = { // 2: these, and 999
+    "among 1 170", "tape abc=999", "cond", "pair 7 0 1"
+  };
 
   /** Lines at the ends of the spans 100 to 309 and 900 to 909, and just beyond them. */
   private static final String[] LINES_AT_ENDS = {
@@ -95,7 +97,8 @@ public final class EdgeKeysTest extends Edges {
     edge("29 the KEY ahead of the greatest", AT_LAST, "truth 0 0 998", 0);
     int[] keys = {123, 132, 213, 231, 312, 321};
     for (int index = 0; index <= 5; index++) {
-      edge("29 by INDEX " + index, "tape abc=123", "cond", "truth 0 " + index + " " + keys[index], 1);
+      edge("29 by INDEX " + index, "tape abc=123", "cond",
+          "truth 0 " + index + " " + keys[index], 1);
       edge("29 the greatest KEY by INDEX " + index, AT_LAST, "truth 0 " + index + " 999", 1);
       edge("29 the least KEY by INDEX " + index, AT_FIRST, "truth 4 " + index + " 0", 1);
       edge("29 KEY 90 by INDEX " + index, "gone 0", "truth 0 " + index + " 90",
@@ -128,7 +131,8 @@ public final class EdgeKeysTest extends Edges {
     edge("31 sixty LINES, TRUE", "test 0 1 1", SIXTY_LINES, "lines 0 1", 60);
     edge("31 sixty LINES, none FALSE", "test 0 1 1", SIXTY_LINES, "lines 0 0", 0);
     edge("31 sixty LINES, in DOUBT", "test 0 1 1", "60 line 0 1 1", "lines 0 2", 60);
-    edge("31 a LINE struck counts no more", "test 0 1 1", "2 line 1 1 1", "strike 1", "lines 0 1", 1);
+    edge("31 a LINE struck counts no more", "test 0 1 1", "2 line 1 1 1", "strike 1",
+        "lines 0 1", 1);
   }
 
   private void values32() {
@@ -297,7 +301,8 @@ public final class EdgeKeysTest extends Edges {
     edge("36 STILL: itself, nothing joined", "tape a=1|a=3", "cond", "of 2 0 2 4", 0);
     edge("36 STILL: the first CONDITION", "among 0 10", "of 0 0 1 4", 1);
     edge("36 STILL: the last CONDITION", "23 gone 0", "among 0 10", 23, "of 23 0 1 4", 1 << 23);
-    edge("36 STILL: not TRUE for one KEY alone", "tape a[1 2 3]&-+abc=255", "cond", "of 4 0 1 4", 8);
+    edge("36 STILL: not TRUE for one KEY alone", "tape a[1 2 3]&-+abc=255", "cond",
+        "of 4 0 1 4", 8);
     edge("36 STILL: not TRUE for a KEY beyond all SPANS", "tape a[1 2 3]&-+abc=455", "cond",
         "of 4 0 1 4", 0);
     edge("36 STILL: a PART in DOUBT", "tape a=1&c~5", "cond", "of 2 0 1 4", 2);
@@ -324,7 +329,8 @@ public final class EdgeKeysTest extends Edges {
     edge("37 five LINES between: COST", THREE, "5 line 5 5 5", "best 2 0 1", 8);
     edge("37 five LINES in each gap: three SPANS", THREE, "5 line 5 5 5", "5 line 2 2 2",
         "best 2 0 0", 3);
-    edge("37 five LINES in each gap: COST", THREE, "5 line 5 5 5", "5 line 2 2 2", "best 2 0 1", 12);
+    edge("37 five LINES in each gap: COST", THREE, "5 line 5 5 5", "5 line 2 2 2",
+        "best 2 0 1", 12);
     edge("37 four in the narrow gap, nine in the wide one", THREE, "9 line 5 5 5", "4 line 2 2 2",
         "best 2 0 0", 2);
     edge("37 asked again, the wide gap", THREE, "3 line 5 5 5", "best 2 0 1", 7, "best 2 0 1", 7);
@@ -364,7 +370,8 @@ public final class EdgeKeysTest extends Edges {
     edge("38 no LINES: of several the first", "test 2 1 5", "bestIndex 0 0", 0);
     edge("38 no LINES: one SPAN's PRICE", "test 2 1 5", "bestIndex 0 1", 4);
     edge("38 no LINES, PRICE 0", "test 2 1 5", "price 0", "bestIndex 0 1", 0);
-    edge("38 two that are least: the first of them", "test 2 1 5", "line 5 5 6", "bestIndex 0 0", 4);
+    edge("38 two that are least: the first of them", "test 2 1 5", "line 5 5 6",
+        "bestIndex 0 0", 4);
     edge("38 the first INDEX alone", "tape ab<55", "cond", "line 5 8 5", "bestIndex 0 0", 0);
     edge("38 the last INDEX alone", "tape cb<55", "cond", "line 5 8 5", "bestIndex 0 0", 5);
     edge("38 the last INDEX alone: COST", "tape cb<55", "cond", "line 5 8 5", "bestIndex 0 1", 4);
@@ -442,7 +449,8 @@ public final class EdgeKeysTest extends Edges {
     edge("40 LINES for which it isn't TRUE don't count", "test 0 1 5", "line 5 1 1", "line 4 1 1",
         "line 0 1 1", "leaders 0 0 1 1", 1);
     edge("40 KEYS that no LINE has count", "test 0 1 5", "leaders 0 0 2 0", 10);
-    edge("40 the last two digits are no matter for one", "tape a=5&b=c", "cond", "leaders 2 0 1 0", 1);
+    edge("40 the last two digits are no matter for one", "tape a=5&b=c", "cond",
+        "leaders 2 0 1 0", 1);
     edge("40 the last digit is no matter for two", "tape a=5&b=6", "cond", "leaders 2 0 2 0", 1);
     edge("40 the first and the last KEY of a leader", "tape abc=199|a=1&b?", "cond", 4,
         "leaders 4 0 1 0", 1);

@@ -7,10 +7,10 @@ import java.util.List;
 import java.util.Map;
 
 /**
- * Edge cases told as runs of calls. Each is a sentence of the document and the steps of one run on a
- * new object: a call in words ("row 0 2 40"), and behind it what is due, if that matters. A step
- * "60 gone 1" is that call 60 times, "tape a?" feeds the signs behind the blank, "tell 0 2 7 8" lays a
- * row in shelf 0 of sort 2 and sets its elements.
+ * Edge cases told as runs of calls. Each is a sentence of the document and the steps of one run on
+ * a new object: a call in words ("row 0 2 40"), and behind it what is due, if that matters. A step
+ * "60 gone 1" is that call 60 times, "tape a?" feeds the signs behind the blank, "tell 0 2 7 8"
+ * lays a row in shelf 0 of sort 2 and sets its elements.
  *
  * <p>When the last call of a case is refused, the case also holds the object against one that was
  * never asked it: only the count of that refusal may differ.
@@ -231,7 +231,8 @@ abstract class Edges {
         count("holds #", 0, 7), s("days 1", "status 6"))));
     all.add(probe(count("keyOf # 0", 0, 59)));
     for (int s = 0; s < 8; s += 2) {
-      all.add(probe(s(count("element " + s + " #", 0, 39), count("element " + (s + 1) + " #", 0, 39),
+      all.add(probe(s(count("element " + s + " #", 0, 39),
+          count("element " + (s + 1) + " #", 0, 39),
           count("copy " + s + " " + s + " 0 0 #", 0, 40),
           count("copy " + (s + 1) + " " + (s + 1) + " 0 0 #", 0, 40))));
     }

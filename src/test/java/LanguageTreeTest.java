@@ -30,7 +30,7 @@ import javax.tools.JavaCompiler;
 import javax.tools.StandardJavaFileManager;
 import javax.tools.ToolProvider;
 
-/** What of LANGUAGE.md the compiler's tree shows: types, library, recursion, and how deep calls go. */
+/** What of LANGUAGE.md the compiler's tree shows: types, library, recursion, the depth of calls. */
 public final class LanguageTreeTest {
   private static final Set<String> LIBRARY = Set.of(
       "java.lang.Math.max", "java.lang.Math.min", "java.lang.Integer.bitCount",
