@@ -383,7 +383,7 @@ public final class SkippingKeys {
     if (!isCondAndIndex(cond, index) || !isWithin(key, 0, KEYS - 1)) {
       return refuse(BAD);
     }
-    return conditions.at(cond).truths[placeOf(index, key)];
+    return conditions.at(cond).truthAt(placeOf(index, key));
   }
 
   public int keys(int cond, int truth) {
@@ -508,7 +508,7 @@ public final class SkippingKeys {
     clearSeen();
     if (what == 0) {
       for (int key = 0; key < KEYS; key++) {
-        if (it.truths[placeOf(index, key)] == TRUE) {
+        if (it.truthAt(placeOf(index, key)) == TRUE) {
           seen[key / behindThem] = true;
         }
       }
@@ -560,7 +560,7 @@ public final class SkippingKeys {
     Condition one = conditions.at(x);
     Condition two = conditions.at(y);
     for (int place = 0; place < KEYS; place++) {
-      if (one.truths[place] == TRUE && two.truths[place] != TRUE) {
+      if (one.truthAt(place) == TRUE && two.truthAt(place) != TRUE) {
         return place;
       }
     }
@@ -784,7 +784,7 @@ public final class SkippingKeys {
 
   private boolean isTrueInPlan(Condition part, int index) {
     for (int key = 0; key < KEYS; key++) {
-      if (spans.planHas(key) && part.truths[placeOf(index, key)] != TRUE) {
+      if (spans.planHas(key) && part.truthAt(placeOf(index, key)) != TRUE) {
         return false;
       }
     }
@@ -793,7 +793,7 @@ public final class SkippingKeys {
 
   private static int seekUp(Condition it, int index, int from) {
     for (int key = Math.max(from, 0); key < KEYS; key++) {
-      if (it.truths[placeOf(index, key)] == TRUE) {
+      if (it.truthAt(placeOf(index, key)) == TRUE) {
         return key;
       }
     }
@@ -802,7 +802,7 @@ public final class SkippingKeys {
 
   private static int seekDown(Condition it, int index, int from) {
     for (int key = Math.min(from, KEYS - 1); key >= 0; key--) {
-      if (it.truths[placeOf(index, key)] == TRUE) {
+      if (it.truthAt(placeOf(index, key)) == TRUE) {
         return key;
       }
     }
@@ -957,7 +957,7 @@ public final class SkippingKeys {
     }
 
     int truthOf(Condition it, int number) {
-      return it.truths[keyIn(number, 0)];
+      return it.truthAt(keyIn(number, 0));
     }
 
     int countOf(Condition it, int wanted) {
@@ -1002,6 +1002,10 @@ public final class SkippingKeys {
 
   /** One condition, with what it is for every key of index 0. */
   private static final class Condition {
+    /** An int holds the truths of so many places, two bits each: all must live in a small room. */
+    private static final int PLACES_IN_ONE = 16;
+    private static final int TRUTH_BITS = 3;
+
     int kind;
     int sign;
     int x;
@@ -1010,13 +1014,13 @@ public final class SkippingKeys {
     int columnBits;
     int deep;
     int parts;
-    final byte[] truths;
+    private final int[] truths;
     private int size;
     private final int[] columns;
     private final int[] wanted;
 
     Condition() {
-      truths = new byte[KEYS];
+      truths = new int[(KEYS + PLACES_IN_ONE - 1) / PLACES_IN_ONE];
       columns = new int[COLUMNS_IN_ALL];
       wanted = new int[COLUMNS_IN_ALL];
     }
@@ -1064,7 +1068,21 @@ public final class SkippingKeys {
       columnBits = other.columnBits;
       deep = other.deep;
       parts = other.parts;
-      System.arraycopy(other.truths, 0, truths, 0, KEYS);
+      System.arraycopy(other.truths, 0, truths, 0, truths.length);
+    }
+
+    /** What it is for a key of index 0. */
+    int truthAt(int place) {
+      return truths[place / PLACES_IN_ONE] >>> shiftOf(place) & TRUTH_BITS;
+    }
+
+    private void keepTruth(int place, int told) {
+      int others = truths[place / PLACES_IN_ONE] & ~(TRUTH_BITS << shiftOf(place));
+      truths[place / PLACES_IN_ONE] = others | told << shiftOf(place);
+    }
+
+    private static int shiftOf(int place) {
+      return 2 * (place % PLACES_IN_ONE);
     }
 
     /** Works out a condition that is over none. */
@@ -1072,7 +1090,7 @@ public final class SkippingKeys {
       deep = 0;
       parts = 1 << number;
       for (int place = 0; place < KEYS; place++) {
-        truths[place] = (byte) leafTruth(place);
+        keepTruth(place, leafTruth(place));
       }
     }
 
@@ -1082,7 +1100,7 @@ public final class SkippingKeys {
       columnBits = first.columnBits | second.columnBits;
       parts = kind == AND ? first.parts | second.parts : 1 << number;
       for (int place = 0; place < KEYS; place++) {
-        truths[place] = (byte) joinedTruth(first.truths[place], second.truths[place]);
+        keepTruth(place, joinedTruth(first.truthAt(place), second.truthAt(place)));
       }
     }
 
@@ -1213,7 +1231,7 @@ public final class SkippingKeys {
     int countKeys(int told) {
       int those = 0;
       for (int place = 0; place < KEYS; place++) {
-        if (truths[place] == told) {
+        if (truthAt(place) == told) {
           those++;
         }
       }
@@ -1223,7 +1241,7 @@ public final class SkippingKeys {
     int valuesIn(int column) {
       int bits = 0;
       for (int place = 0; place < KEYS; place++) {
-        if (truths[place] == TRUE) {
+        if (truthAt(place) == TRUE) {
           bits |= 1 << place / WEIGHT[column] % DIGITS;
         }
       }
@@ -1233,7 +1251,7 @@ public final class SkippingKeys {
     /** The least key of index 0 for which another is not the same; NONE. */
     int firstUnlike(Condition other) {
       for (int place = 0; place < KEYS; place++) {
-        if (truths[place] != other.truths[place]) {
+        if (truthAt(place) != other.truthAt(place)) {
           return place;
         }
       }
@@ -1821,7 +1839,6 @@ public final class SkippingKeys {
   private static final class Spans {
     private static final int MOST = KEYS / 2;
 
-    private final byte[] truths;
     private final int[] first;
     private final int[] last;
     private final int[] begun;
@@ -1835,7 +1852,6 @@ public final class SkippingKeys {
     int bestCost;
 
     Spans() {
-      truths = new byte[KEYS];
       first = new int[MOST];
       last = new int[MOST];
       begun = new int[KEYS];
@@ -1851,8 +1867,7 @@ public final class SkippingKeys {
       count = 0;
       boolean inside = false;
       for (int key = 0; key < KEYS; key++) {
-        truths[key] = it.truths[placeOf(index, key)];
-        boolean so = truths[key] == TRUE;
+        boolean so = it.truthAt(placeOf(index, key)) == TRUE;
         if (so && !inside && count < MOST) {
           first[count] = key;
           count++;
@@ -1925,15 +1940,19 @@ public final class SkippingKeys {
       return NONE;
     }
 
+    private boolean isInRun(int key) {
+      return begun[key] > 0 && key <= last[begun[key] - 1];
+    }
+
     /** The gap between two runs in which a key is; NONE: it is in a run, or beyond them all. */
     private int gapAt(int key) {
       int gap = begun[key] - 1;
-      return truths[key] != TRUE && isWithin(gap, 0, count - 2) ? gap : NONE;
+      return !isInRun(key) && isWithin(gap, 0, count - 2) ? gap : NONE;
     }
 
     boolean planHas(int key) {
       int gap = gapAt(key);
-      return truths[key] == TRUE || gap != NONE && joined[gap];
+      return isInRun(key) || gap != NONE && joined[gap];
     }
 
     int countKeysBetween() {
@@ -1984,7 +2003,7 @@ public final class SkippingKeys {
       for (int line = 0; line < lines.count; line++) {
         int key = lines.keyIn(line, index);
         int gap = gapAt(key);
-        if (truths[key] == TRUE) {
+        if (isInRun(key)) {
           inRuns++;
         } else if (gap != NONE) {
           linesInGap[gap]++;

@@ -1,30 +1,77 @@
 import com.sun.management.ThreadMXBean;
 import java.lang.management.ManagementFactory;
+import java.lang.reflect.Array;
+import java.lang.reflect.Field;
+import java.lang.reflect.Modifier;
+import java.util.IdentityHashMap;
+import java.util.Map;
 
 /**
- * All calls of a run live in one room: an object is small, and no call makes anything more, however
- * dear it is.
+ * All calls of a run live in one room: an object is so small that a run of nothing but new objects
+ * has room in it, and no call makes anything more, however dear it is.
  */
 public final class RoomTest {
   private static final int CALLS = 512;
+  private static final int ROOM_OF_OBJECTS = 600_000;
+  private static final int ROOM_OF_PLACES = 7_300_000;
   private static final ThreadMXBean THREADS =
       (ThreadMXBean) ManagementFactory.getThreadMXBean();
 
-  public static void main(String[] args) {
+  public static void main(String[] args) throws IllegalAccessException {
     Checks checks = new Checks("RoomTest");
     playAll(new SkippingKeys()); // what the machine itself makes at the first calls is no matter
-    long before = made();
     SkippingKeys x = new SkippingKeys();
-    long object = made() - before;
-    System.out.println("RoomTest: an object has some " + object + " bytes");
-    checks.due("an object has less than 200000 bytes", object < 200000 ? 1 : 0, 1);
+    checkSize(checks, x, "a new object");
 
-    before = made();
+    long before = made();
     playAll(x);
     long calls = made() - before;
     System.out.println("RoomTest: its calls made some " + calls + " bytes");
     checks.due("calls make less than 20000 bytes in all", calls < 20000 ? 1 : 0, 1);
+    checkSize(checks, x, "an object behind all its calls");
     checks.end();
+  }
+
+  private static void checkSize(Checks checks, SkippingKeys x, String name)
+      throws IllegalAccessException {
+    Map<Object, Integer> placesOf = new IdentityHashMap<>();
+    collect(x, placesOf);
+    int places = 0;
+    for (int one : placesOf.values()) {
+      places += one;
+    }
+    int objects = placesOf.size();
+    System.out.println("RoomTest: " + name + " is " + objects + " objects and arrays, " + places
+        + " fields and elements");
+    checks.due(name + ": few objects", CALLS * objects < ROOM_OF_OBJECTS ? 1 : 0, 1);
+    checks.due(name + ": few fields and elements", CALLS * places < ROOM_OF_PLACES ? 1 : 0, 1);
+  }
+
+  /** An object with all that it holds, and how many fields or elements each of these has. */
+  private static void collect(Object it, Map<Object, Integer> placesOf)
+      throws IllegalAccessException {
+    if (it == null || placesOf.containsKey(it)) {
+      return;
+    }
+    if (it.getClass().isArray()) {
+      placesOf.put(it, Array.getLength(it));
+      for (int i = 0; it instanceof Object[] && i < Array.getLength(it); i++) {
+        collect(Array.get(it, i), placesOf);
+      }
+      return;
+    }
+    int fields = 0;
+    placesOf.put(it, fields);
+    for (Field field : it.getClass().getDeclaredFields()) {
+      if (!Modifier.isStatic(field.getModifiers())) {
+        fields++;
+        field.setAccessible(true);
+        if (!field.getType().isPrimitive()) {
+          collect(field.get(it), placesOf);
+        }
+      }
+    }
+    placesOf.put(it, fields);
   }
 
   private static long made() {
