@@ -1944,10 +1944,10 @@ public final class SkippingKeys {
       return begun[key] > 0 && key <= last[begun[key] - 1];
     }
 
-    /** The gap between two runs in which a key is; NONE: it is in a run, or beyond them all. */
+    /** The gap in which a key is that is in no run; NONE: it is beyond them all. */
     private int gapAt(int key) {
       int gap = begun[key] - 1;
-      return !isInRun(key) && isWithin(gap, 0, count - 2) ? gap : NONE;
+      return isWithin(gap, 0, count - 2) ? gap : NONE;
     }
 
     boolean planHas(int key) {

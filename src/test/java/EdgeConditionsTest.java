@@ -344,6 +344,12 @@ public final class EdgeConditionsTest extends Edges {
         "gone 0", 0, "holds 0", NONE);
     edge("25 over a dropped one: a new one", "test 0 1 4", "drop", "test 0 1 5", 0,
         "truth 0 0 500", TRUE);
+    edge("25 over a dropped one, TRUE for all: FALSE for all", "tape a?|-a?", "cond", 3, "drop",
+        "pair 6 0 2", 3, "keys 3 0", 1000);
+    edge("25 over a dropped one, FALSE for all: TRUE for all", "tape a?&-a?", "cond", 3, "drop",
+        "pair 7 0 2", 3, "keys 3 1", 1000);
+    edge("25 over a dropped one, TRUE for all: some in DOUBT", "tape a?|-a?", "cond", 3, "drop",
+        "test 2 1 5", 3, "keys 3 0", 800, "keys 3 1", 100, "keys 3 2", 100);
     edge("25 one over none where one over another was", "gone 0", "turn 8 0", "drop", 1, "gone 1",
         1, "condOf 1 5", 0, "condOf 1 3", 2, "condOf 1 1", NONE);
     edge("25 one over another where one over none was", ALL_CONDITIONS, "gone 2", FULL, "drop", 23,

@@ -129,6 +129,13 @@ public final class EdgeDaysTest extends Edges {
     }
     edge("54 what they are for KEYS, where others are", others, "truth 1 0 110", 1,
         "truth 1 0 120", 0, "truth 3 0 930", 1, "truth 3 0 940", 0, "truth 4 0 110", 1);
+    // CONDITION 3 is TRUE for all KEYS, or FALSE for all, and the other way in what was kept.
+    String[] ways = {"pair 7 0 2", "pair 6 0 2"};
+    for (int truth = 0; truth <= 1; truth++) {
+      edge("54 what they are for all KEYS, where others are", "tape a?|-a?", "cond", "drop",
+          ways[1 - truth], "image", "drop", ways[truth], "keys 3 " + truth, 0, "back", 1,
+          "keys 3 " + truth, 1000);
+    }
     edge("54 what SHELVES say of them, where others are", others, "show 0 3", "says 0 1", 1,
         "says 0 6", 2);
     edge("54 what SHELVES say of one COLUMN's, where others are", others, "show 0 1", "says 0 2",
